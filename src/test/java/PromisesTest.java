@@ -233,6 +233,10 @@ public final class PromisesTest {
         Check.due("remove from a full list", y.remove(0, 9), 0);
         Check.due("its last has moved down", y.at(0, 62), 639);
         Check.due("there is room again", y.append(0, 640), 64);
+        y.run(1, 64, 10);
+        Check.due("remove the first of a full list 1", y.remove(1, 9), 0);
+        Check.due("its last has moved down", y.at(1, 62), 639);
+        Check.due("no more are left", y.at(1, 63), NONE);
     }
 
     private static void promise6Clear() {
@@ -332,8 +336,14 @@ public final class PromisesTest {
         Check.due("sum(0, LOW, LOW)", x.sum(0, LOW, LOW), 0);
         Check.due("sum(1, 0, 3)", x.sum(1, 0, 3), 5);
         Check.due("sum of an empty list", new PforDelta().sum(0, 0, 63), 0);
+        x.remove(0, 1000);
+        Check.due("sum after remove", x.sum(0, 0, 63), 111);
+        x.clear(0);
+        Check.due("sum after clear", x.sum(0, 0, 63), 0);
         PforDelta y = with(999936);
         y.run(0, 63, 1);
+        y.run(1, 64, 1);
+        Check.due("sum of list 1", y.sum(1, 0, HIGH), 63 * 32);
         Check.due("sum of great numbers", y.sum(0, 0, 63), 64 * 999936 + 63 * 32);
     }
 
